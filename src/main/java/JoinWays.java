@@ -1067,18 +1067,17 @@ public final class JoinWays {
     }
 
     /**
-     * The best plans of a set and all its subsets. For each subset the best is kept for each letter
-     * that it may be sorted by, for none, and of them all: what a plan costs as a side depends on
-     * nothing else.
+     * The best plans of a set and all its subsets. For each subset the best is kept of those that are
+     * sorted by a letter, for each letter, and of them all: what a plan costs as a side depends on
+     * nothing else, and to be sorted by none is never of use.
      *
      * A plan is kept as its KEY, four binary figures for each sign but ")", which rise as the codes
      * of the signs do. Plans of one set have equally many signs, and ")" stands only where nothing
      * else may, so keys are ordered as texts are; six tables have 16 such signs: one long.
      */
     private static final class Chooser {
-        private static final int SLOTS = 10;
-        private static final int UNSORTED = 8;
-        private static final int ANY = 9;
+        private static final int ANY = MOST_LETTERS;
+        private static final int SLOTS = MOST_LETTERS + 1;
         private static final int KEY_OPEN = 1;
         private static final int KEY_TABLE = 2;
         private static final int KEY_LOOPS = 8;
@@ -1125,7 +1124,7 @@ public final class JoinWays {
         private void takeTable(int sub) {
             int t = Integer.numberOfTrailingZeros(sub);
             int letter = shelf.sortedLetter(t);
-            offer(sub, letter == NONE ? UNSORTED : letter, pageCounts[sub], KEY_TABLE + t);
+            offer(sub, letter == NONE ? ANY : letter, pageCounts[sub], KEY_TABLE + t);
         }
 
         private void takeSteps(int sub, int shape) {
@@ -1146,7 +1145,7 @@ public final class JoinWays {
         private void takeLoops(int left, int right) {
             int y = right * SLOTS + ANY;
             int more = costs[y] + Price.loops(pageCounts[left], pageCounts[right], shelf.memory());
-            for (int slot = 0; slot <= UNSORTED; slot++) {
+            for (int slot = 0; slot < SLOTS; slot++) {
                 int x = left * SLOTS + slot;
                 if (costs[x] != ABSENT) {
                     long key = keyOfStep(left, keys[x], KEY_LOOPS, right, keys[y]);
@@ -1160,7 +1159,7 @@ public final class JoinWays {
             int y = right * SLOTS + ANY;
             int more = Price.parts(pageCounts[left], pageCounts[right], shelf.memory());
             long key = keyOfStep(left, keys[x], KEY_PARTS, right, keys[y]);
-            offer(left | right, UNSORTED, costs[x] + costs[y] + more, key);
+            offer(left | right, ANY, costs[x] + costs[y] + more, key);
         }
 
         private void takeSorted(int left, int right, int letter) {

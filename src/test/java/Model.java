@@ -18,8 +18,8 @@ final class Model {
         final List<int[]> rows = new ArrayList<>();
     }
 
-    /** A plan with what it costs; order is its letter, or NONE. */
-    record Plan(String text, Set<Integer> tables, long cost, int order, boolean done, int steps) {
+    /** A plan of a set (as bits) with what it costs; order is its letter, or NONE. */
+    record Plan(String text, int tables, long cost, int order, boolean done, int steps) {
     }
 
     final List<Table> tables = new ArrayList<>();
@@ -421,20 +421,19 @@ final class Model {
                 if (left == null || right == null) {
                     return null;
                 }
-                for (int t : left.tables()) {
-                    if (right.tables().contains(t)) {
-                        return null;
-                    }
+                if ((left.tables() & right.tables()) != 0) {
+                    return null;
                 }
-                return step(left, c, right, pagesOf(left.tables(), by), pagesOf(right.tables(), by));
+                long a = pagesOf(members(left.tables()), by);
+                long b = pagesOf(members(right.tables()), by);
+                return step(left, c, right, a, b);
             }
         }
         return null;
     }
 
     private Plan alone(int t, int by) {
-        Set<Integer> one = Set.of(t);
-        return new Plan(String.valueOf(t), one, pagesOf(one, by), order(tables.get(t)), true, 0);
+        return new Plan(String.valueOf(t), 1 << t, pagesOf(Set.of(t), by), order(tables.get(t)), true, 0);
     }
 
     private Set<Integer> lettersOf(Set<Integer> set) {
@@ -446,9 +445,8 @@ final class Model {
     }
 
     private Plan step(Plan left, char way, Plan right, long a, long b) {
-        TreeSet<Integer> shared = new TreeSet<>(lettersOf(left.tables()));
-        shared.retainAll(lettersOf(right.tables()));
-        boolean done = left.done() && right.done() && (way == 'l' || !shared.isEmpty());
+        int shared = leastShared(left.tables(), right.tables());
+        boolean done = left.done() && right.done() && (way == 'l' || shared != NONE);
         long cost = left.cost() + right.cost();
         int order = NONE;
         if (way == 'l') {
@@ -456,15 +454,29 @@ final class Model {
             order = left.order();
         } else if (way == 'p') {
             cost += Math.min(a, b) > memory - 2 ? 2 * (a + b) : 0;
-        } else if (!shared.isEmpty()) {
-            order = shared.first();
+        } else if (shared != NONE) {
+            order = shared;
             cost += left.order() == order ? 0 : sorting(a);
             cost += right.order() == order ? 0 : sorting(b);
         }
-        Set<Integer> all = new TreeSet<>(left.tables());
-        all.addAll(right.tables());
         String text = "(" + left.text() + way + right.text() + ")";
-        return new Plan(text, all, cost, order, done, left.steps() + right.steps() + 1);
+        return new Plan(text, left.tables() | right.tables(), cost, order, done, left.steps() + right.steps() + 1);
+    }
+
+    private int leastShared(int left, int right) {
+        for (int letter = 0; letter < 8; letter++) {
+            boolean leftHas = false;
+            boolean rightHas = false;
+            for (int t = 0; t < tables.size(); t++) {
+                boolean has = (tables.get(t).bits & 1 << letter) != 0;
+                leftHas |= has && (left & 1 << t) != 0;
+                rightHas |= has && (right & 1 << t) != 0;
+            }
+            if (leftHas && rightHas) {
+                return letter;
+            }
+        }
+        return NONE;
     }
 
     private long sorting(long a) {
@@ -487,7 +499,7 @@ final class Model {
             return STATE;
         }
         if (what == 0) {
-            return bits(plan.tables());
+            return plan.tables();
         }
         if (what == 3) {
             return plan.steps();

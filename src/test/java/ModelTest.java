@@ -31,15 +31,15 @@ public final class ModelTest {
         System.exit(wrong == 0 ? 0 : 1);
     }
 
-    /** Whole texts of best plans of many tables; in all shapes six of them have seven million plans, so few of these. */
+    /** Whole texts of best plans; six tables that all share a letter have seven million plans, so there are few of these. */
     private static int bigRuns() {
         int wrong = 0;
-        for (int run = 0; run < 44 && wrong == 0; run++) {
+        for (int run = 0; run < 84 && wrong == 0; run++) {
             ModelTest test = new ModelTest(1000 + run);
-            int many = run < 40 ? 3 + run % 3 : 6;
-            int shape = run < 42 ? run / 2 % 2 : 0;
+            int many = run < 80 ? 3 + run % 3 : 6;
+            int shape = run < 82 ? run / 2 % 2 : 0;
             while (test.model.tables.size() < many) {
-                test.newTable();
+                test.newTable(run % 4 == 3 ? 2 : 6);
                 test.fillTable(test.model.tables.size() - 1);
                 test.fillTable(test.model.tables.size() - 1);
             }
@@ -117,10 +117,9 @@ public final class ModelTest {
         return set;
     }
 
-    private void newTable() {
+    private void newTable(int pool) {
         int letters = 0;
         int many = 1 + random.nextInt(3);
-        int pool = 2 + random.nextInt(5);
         for (int k = 0; k < many; k++) {
             letters |= 1 << random.nextInt(pool);
         }
@@ -147,7 +146,7 @@ public final class ModelTest {
             case 0:
             case 1:
                 if (model.tables.size() < mostTables || mostTables == 6) {
-                    newTable();
+                    newTable(2 + random.nextInt(5));
                 }
                 break;
             case 2:

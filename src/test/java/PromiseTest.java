@@ -366,6 +366,16 @@ public final class PromiseTest {
         due("11: size(3, 0)", x.size(3, 0), 4);
         // 3 times 3 by 2 (2 and 2 but the least one), rounded down
         due("11: size(3, 1)", x.size(3, 1), 4);
+        x.drop(1, 0);
+        x.drop(1, 0);
+        // 3 times 1 by 2: the least one is 1
+        due("11: rounded down", x.size(3, 1), 1);
+        due("11: one row", x.size(2, 1), 1);
+        due("11: one row, true", x.size(2, 0), 1);
+        x.drop(1, 0);
+        x.row(1, 5, 7, 0);
+        x.row(1, 5, 8, 0);
+        x.row(1, 9, 9, 0);
         x.table(1, 1);
         due("11: no rows, true", x.size(7, 0), 0);
         due("11: no rows, foretold", x.size(7, 1), 0);
@@ -733,6 +743,11 @@ public final class PromiseTest {
         due("20: a letter of none, foretold", x.best(3, 1, 1, 7), 12);
         due("20: done", x.count(4), 9);
         due("20: nothing to read", empty(1, 1).best(3, 0, 0, 0), 0);
+        x.sort(0, 1);
+        x.row(0, 0, 0, 0);
+        // table 0 is sorted by none now, its two pages are full
+        due("20: the left side is sorted by none", x.best(3, 0, 0, NONE), 8);
+        due("20: and then it is sorted", x.best(3, 0, 0, 0), 12);
     }
 
     /**
@@ -861,6 +876,9 @@ public final class PromiseTest {
         textIs(free, 63, 0, NONE, "(((((0l1)l2)l3)l4)l5)");
         textIs(free, 44, 0, 3, "((2l3)l5)");
         textIs(free, 33, 1, 0, "(0l5)");
+        // sorted by 0 is (1l0), but to sort nothing costs nothing
+        textIs(empty(2, 1), 3, 0, 0, "(0l1)");
+        textIs(empty(1, 2), 3, 0, 1, "(0l1)");
         JoinWays twice = empty(1, 1, 1, 1, 1, 1);
         textIs(twice, 63, 1, 0, "(((((0l1)l2)l3)l4)l5)");
     }
