@@ -299,7 +299,7 @@ public final class JoinWays {
     }
 
     public int cover(int set) {
-        return shelf.isSet(set) ? shelf.leastCover(set) : OUTSIDE;
+        return shelf.isSet(set) ? shelf.fewestThatCover(set) : OUTSIDE;
     }
 
     public int count(int what) {
@@ -655,17 +655,17 @@ public final class JoinWays {
             return letters;
         }
 
-        int leastCover(int set) {
+        int fewestThatCover(int set) {
             int all = lettersOfSet(set);
-            int least = set;
+            int fewest = set;
+            // bits rise, so of like ones the first stays
             for (int sub = 1; sub < SETS && sub < set; sub++) {
                 boolean covers = (sub & ~set) == 0 && lettersOfSet(sub) == all;
-                int fewer = Integer.bitCount(sub) - Integer.bitCount(least);
-                if (covers && (fewer < 0 || fewer == 0 && sub < least)) {
-                    least = sub;
+                if (covers && Integer.bitCount(sub) < Integer.bitCount(fewest)) {
+                    fewest = sub;
                 }
             }
-            return least;
+            return fewest;
         }
     }
 

@@ -30,6 +30,7 @@ public final class PromiseTest {
         plan();
         planThatCannotBeDone();
         planSorting();
+        planOfSix();
         planOfNoPlan();
         best();
         bestShapes();
@@ -717,6 +718,24 @@ public final class PromiseTest {
         planIs(x, "((0s2)l1)", 0, 7, 8 + 4, 0, 2);
         x.rule(1, 4);
         planIs(x, "(0s1)", 0, 3, 4 + 4 + 8 + 8, 1, 1);
+    }
+
+    /** Table t has the numbers 0 to t, one on a page, so tables k to 5 have k + 1 joined rows. */
+    private static void planOfSix() {
+        JoinWays x = empty(1, 1, 1, 1, 1, 1);
+        for (int t = 0; t < 6; t++) {
+            for (int i = 0; i <= t; i++) {
+                x.row(t, i, 0, 0);
+            }
+        }
+        int own = 1 + 2 + 3 + 4 + 5 + 6;
+        int outer = 2 * 1 + 2 * 2 + 3 * 3;
+        planIs(x, "(0l(1l(2l(3l(4l5)))))", 0, 63, own + outer + 6 * 4, 0, 5);
+        planIs(x, "(0l(1l(2l(3l(4p5)))))", 0, 63, own + outer + 2 * (5 + 6), 0, 5);
+        planIs(x, "(0l(1l(2l(3l(4s5)))))", 0, 63, own + outer, 0, 5);
+        // to the left: pages 1 and 6, then 1 of one joined row each
+        planIs(x, "(((((0l5)l4)l3)l2)l1)", 0, 63, own, 0, 5);
+        planIs(x, "(((((5l0)p4)p3)p2)p1)", 0, 63, own + 5, NONE, 5);
     }
 
     private static void planOfNoPlan() {
