@@ -115,7 +115,7 @@ public final class JoinWays {
             case 2:
                 return shelf.rowsOf(table);
             case 3:
-                return matches.pagesOf(1 << table, BY_TRUE);
+                return shelf.pagesOfTable(table);
             case 4:
                 return shelf.sortedLetter(table);
             default:
@@ -503,6 +503,10 @@ public final class JoinWays {
             return t >= 0 && t < made ? rowCount[t] : 0;
         }
 
+        int pagesOfTable(int t) {
+            return Price.roundedUp(rowsOf(t), perOf(t));
+        }
+
         int codeAt(int t, int i) {
             boolean there = t >= 0 && t < made && i >= 0 && i < rowCount[t];
             return there ? codes[t * MOST_ROWS + i] : 0;
@@ -683,8 +687,7 @@ public final class JoinWays {
 
         int pagesOf(int set, int by) {
             if (Integer.bitCount(set) == 1) {
-                int t = Integer.numberOfTrailingZeros(set);
-                return Price.roundedUp(shelf.rowsOf(t), shelf.perOf(t));
+                return shelf.pagesOfTable(Integer.numberOfTrailingZeros(set));
             }
             return Price.roundedUp(sizeOf(set, by), shelf.wide());
         }
@@ -998,7 +1001,7 @@ public final class JoinWays {
                 return;
             }
             sets[held] = 1 << t;
-            costs[held] = matches.pagesOf(1 << t, BY_TRUE);
+            costs[held] = shelf.pagesOfTable(t);
             orders[held] = shelf.sortedLetter(t);
             held++;
         }

@@ -6,7 +6,9 @@ import java.lang.reflect.Modifier;
 import java.nio.file.Files;
 import java.nio.file.Path;
 import java.util.Arrays;
+import java.util.HashMap;
 import java.util.List;
+import java.util.Map;
 import java.util.Set;
 import java.util.TreeSet;
 import java.util.regex.Matcher;
@@ -34,7 +36,9 @@ public final class FaceTest {
         constructors();
         methods();
         nestedClasses();
-        source(Files.readString(Path.of("src/main/java/JoinWays.java")));
+        String text = Files.readString(Path.of("src/main/java/JoinWays.java"));
+        source(text);
+        methodsAreShort(text);
         System.out.println(wrong == 0 ? "the face is as told" : wrong + " faults");
         System.exit(wrong == 0 ? 0 : 1);
     }
@@ -113,9 +117,47 @@ public final class FaceTest {
         }
     }
 
+    private static String withoutComments(String text) {
+        return text.replaceAll("(?s)/\\*.*?\\*/", "").replaceAll("//[^\n]*", "");
+    }
+
+    /** Methods by their names alone: those that bear one name in several classes are taken as one. */
+    private static void methodsAreShort(String text) {
+        String code = withoutComments(text);
+        Map<String, String> bodies = new HashMap<>();
+        Matcher heads = Pattern.compile("(?m)^ +(?:(?:public|private|static|final) )*(?:int|long|boolean|void|int\\[\\]) (\\w+)\\(([^)]*)\\) \\{")
+                .matcher(code);
+        while (heads.find()) {
+            int end = heads.end();
+            for (int open = 1; open > 0; end++) {
+                open += code.charAt(end) == '{' ? 1 : code.charAt(end) == '}' ? -1 : 0;
+            }
+            String body = code.substring(heads.end(), end);
+            must(body.lines().count() <= 60, heads.group(1) + " is long");
+            must(heads.group(2).split(",").length <= 7, heads.group(1) + " has many parameters");
+            bodies.merge(heads.group(1), body, String::concat);
+        }
+        must(bodies.size() > METHODS.length, "methods were not found");
+        for (String name : bodies.keySet()) {
+            must(depth(name, bodies, 1) <= 8, name + " calls deeper than eight");
+        }
+    }
+
+    private static int depth(String name, Map<String, String> bodies, int at) {
+        int deepest = at;
+        Matcher calls = Pattern.compile("(?<!Arrays\\.)\\b(\\w+)\\(").matcher(bodies.get(name));
+        while (calls.find() && deepest < 20) {
+            String called = calls.group(1);
+            if (bodies.containsKey(called) && !called.equals(name)) {
+                deepest = Math.max(deepest, depth(called, bodies, at + 1));
+            }
+        }
+        return deepest;
+    }
+
     private static void source(String text) {
         must(!Pattern.compile("(?m)^package ").matcher(text).find(), "a package line");
-        String code = text.replaceAll("(?s)/\\*.*?\\*/", "").replaceAll("//[^\n]*", "");
+        String code = withoutComments(text);
         for (String word : List.of("throw", "throws", "try", "catch", "synchronized", "assert", "Object", "var",
                 "double", "float", "hashCode", "toString", "protected", "Exact")) {
             must(!Pattern.compile("\\b" + word + "\\b").matcher(code).find(), "the word " + word);
