@@ -19,6 +19,7 @@ public final class PlanEdgesTest {
         goodIsNotAskedWhatCanBeDone();
         planIsNoPlan();
         planOfOneTable();
+        planOfSixTables();
         planCannotBeDone();
         planIsByZeroOrOne();
         loopsAboveMemory();
@@ -118,6 +119,16 @@ public final class PlanEdgesTest {
         e.takes("of forty", e.x.blank(), 40);
         e.tells("none is told", e.x.count(2), 0);
         e.takes("room again", e.x.letters(Edge.word("01234567")), 8);
+        Edge trace = new Edge("17: nothing of it is left").bare(1, 1).page("(0l1)");
+        trace.tells("a PLAN", trace.x.plan(0, 0), 3);
+        for (int length = 0; length < 5; length++) {
+            trace.page("(0l1)").page("(0l1)".substring(0, length));
+            trace.tells("good() of the first " + length, trace.x.good(), length);
+            trace.refuses("plan(0, 0) of the first " + length, trace.x.plan(0, 0), STATE);
+        }
+        trace.page("(0l1)").page("1");
+        trace.tells("a TABLE alone", trace.x.plan(0, 0), 2);
+        trace.tells("its steps", trace.x.plan(0, 3), 0);
     }
 
     private static void good(Edge e, String text, int want) {
@@ -236,6 +247,28 @@ public final class PlanEdgesTest {
         e.tells("SET", e.x.plan(0, 0), 2);
         e.tells("COST of no PAGES", e.x.plan(0, 1), 0);
         e.tells("SORTED without ROWS", e.x.plan(0, 2), 2);
+    }
+
+    /** Table t has the numbers 0 to t, a page each: k to 5 have k + 1 joined rows, a page each too. */
+    private static void planOfSixTables() {
+        Edge e = new Edge("19: PLANS of all six TABLES, to the right and to the left").rules(1, 3);
+        for (int t = 0; t < 6; t++) {
+            e.column(0, Edge.rising(t + 1));
+        }
+        int read = 1 + 2 + 3 + 4 + 5 + 6;
+        String[] texts = {"(0l(1l(2l(3l(4l5)))))", "(0p(1p(2p(3p(4p5)))))", "(0s(1s(2s(3s(4s5)))))", "(((((0l5)l4)l3)l2)l1)",
+            "(((((5l4)l3)l2)l1)l0)"};
+        // to the right a TABLE of k PAGES meets k + 1 of all behind it; to the left what is joined meets one PAGE less
+        int[] more = {3 * 1 + 4 * 2 + 5 * 3 + 6 * 4, 2 * (2 + 3) + 2 * (3 + 4) + 2 * (4 + 5) + 2 * (5 + 6), 0, 0,
+            5 * 5 + 4 * 4 + 3 * 3 + 2 * 2 + 1};
+        for (int k = 0; k < texts.length; k++) {
+            e.page(texts[k]);
+            e.tells("good() of " + texts[k], e.x.good(), 21);
+            e.tells("SET of " + texts[k], e.x.plan(0, 0), 63);
+            e.tells("COST of " + texts[k], e.x.plan(0, 1), read + more[k]);
+            e.tells("order of " + texts[k], e.x.plan(0, 2), k == 1 ? NONE : 0);
+            e.tells("steps of " + texts[k], e.x.plan(1, 3), 5);
+        }
     }
 
     private static void planCannotBeDone() {
