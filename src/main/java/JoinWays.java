@@ -242,8 +242,8 @@ public final class JoinWays {
         }
         choices++;
         chooser.choose(set, shape, by);
-        int length = chooser.write(set, letter);
-        return i < 0 || i >= length ? NONE : chooser.signAt(i);
+        chooser.write(set, letter);
+        return chooser.signAt(i);
     }
 
     public int regret(int set, int shape) {
@@ -983,14 +983,17 @@ public final class JoinWays {
             doable = true;
             for (int i = 0; i < length && i < signs.length; i++) {
                 int sign = signs[i];
-                if (sign == ')') {
-                    joinLastTwo();
-                } else if (sign >= '0' && sign < '0' + MOST_TABLES) {
+                boolean isTable = sign >= '0' && sign < '0' + MOST_TABLES;
+                boolean isStep = sign == ')';
+                if (isTable) {
                     holdTable(sign - '0');
+                } else if (isStep) {
+                    joinLastTwo();
                 } else if (sign != '(') {
                     holdWay(sign);
                 }
-                if (held > 0 && held <= MOST_TABLES) {
+                // its pages are told here, not where it is held: the chain of calls behind them is long
+                if ((isTable || isStep) && held > 0 && held <= MOST_TABLES) {
                     pageCounts[held - 1] = matches.pagesOf(sets[held - 1], by);
                 }
             }

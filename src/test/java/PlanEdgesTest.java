@@ -18,6 +18,7 @@ public final class PlanEdgesTest {
         goodOpensAsManyAsThereAre();
         goodIsNotAskedWhatCanBeDone();
         planIsNoPlan();
+        planOfTablesThatThereAre();
         planOfOneTable();
         planOfSixTables();
         planCannotBeDone();
@@ -38,6 +39,7 @@ public final class PlanEdgesTest {
         bestIsOutside();
         sixtyTimesTogether();
         sixtyTimesEach();
+        sixtyTimesNone();
         signNone();
         regretOfNothing();
         regretOfWhatWasForetold();
@@ -221,6 +223,17 @@ public final class PlanEdgesTest {
         good(e, "(0p1)", 5);
         good(e, "(0s1)", 5);
         e.tells("its SET", e.x.plan(0, 0), 3);
+        Edge apart = new Edge("18: each letter of it may go ahead of some others, done or not").bare(1, 2, 4);
+        for (String text : new String[] {"((0p1)s2)", "((2s1)p0)", "(1s(0p2))", "(2p(1l0))"}) {
+            for (int length = 1; length < text.length(); length++) {
+                good(apart, text.substring(0, length), length);
+                apart.refuses("it is no PLAN yet", apart.x.plan(0, 1), STATE);
+            }
+            good(apart, text, text.length());
+            apart.tells("it is a PLAN", apart.x.plan(0, 0), 7);
+            apart.tells("that cannot be done", apart.x.plan(0, 1), CANNOT);
+            apart.tells("and is SORTED by nothing that can be told", apart.x.plan(0, 2), CANNOT);
+        }
     }
 
     private static void planIsNoPlan() {
@@ -231,6 +244,30 @@ public final class PlanEdgesTest {
             for (int what = 0; what < 4; what++) {
                 e.refuses("plan(" + what % 2 + ", " + what + ") of " + text, e.x.plan(what % 2, what), STATE);
             }
+        }
+    }
+
+    /** A text of six TABLES that stays on THE PAGE while they are made, one by one. */
+    private static void planOfTablesThatThereAre() {
+        String[] texts = {"(0l(1l(2l(3l(4l5)))))", "(((((0p1)p2)p3)p4)p5)", "((5s4)l((3s2)p(1l0)))"};
+        // what ends them: a "(" too many, or, in the last one, TABLE 5 behind two of them
+        int[][] goods = {{0, 0, 3, 6, 9, 12, 21}, {0, 0, 1, 2, 3, 4, 21}, {0, 0, 1, 2, 2, 2, 21}};
+        for (int k = 0; k < texts.length; k++) {
+            Edge e = new Edge("18, 19: a PLAN of TABLES that there are: " + texts[k]).page(texts[k]);
+            for (int tables = 0; tables <= 6; tables++) {
+                if (tables > 0) {
+                    e.bare(1);
+                }
+                e.tells("good() of " + tables, e.x.good(), goods[k][tables]);
+                for (int what = 0; what < 4; what++) {
+                    if (tables < 6) {
+                        e.refuses("a TABLE is not there, " + what, e.x.plan(0, what), STATE);
+                    }
+                }
+            }
+            e.tells("all are there: its SET", e.x.plan(0, 0), 63);
+            e.tells("all are there: its COST", e.x.plan(1, 1), 0);
+            e.tells("all are there: its steps", e.x.plan(0, 3), 5);
         }
     }
 
@@ -647,6 +684,20 @@ public final class PlanEdgesTest {
 
     private static int choose(JoinWays x, int kind) {
         return kind == 0 ? x.best(1, 0, 0, NONE) : kind == 1 ? x.sign(1, 0, 0, NONE, 0) : x.regret(1, 0);
+    }
+
+    /** NONE is no refusal: what answers it was done, and the 61st is refused. */
+    private static void sixtyTimesNone() {
+        Edge e = new Edge("20 to 22: a sign() that answers NONE was done").column(0, 1);
+        for (int n = 1; n <= 60; n++) {
+            e.takes("no sign, " + n, e.x.sign(1, n % 2, 0, NONE, n % 2 == 0 ? n : -n), NONE);
+            e.tells("how often", e.x.count(4), n);
+        }
+        e.refuses("no sign, 61", e.x.sign(1, 0, 0, NONE, 1), STATE);
+        for (int kind = 0; kind < 3; kind++) {
+            e.refuses(kind + " behind them", choose(e.x, kind), STATE);
+        }
+        e.tells("how often then", e.x.count(4), 60);
     }
 
     private static void signNone() {
